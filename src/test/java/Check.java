@@ -79,7 +79,8 @@ final class Check {
 
     static String form(TypeOrThing x) {
         StringBuilder out = new StringBuilder();
-        for (int i = 0; i < x.length(); i++) {
+        int length = x.length();
+        for (int i = 0; i < length; i++) {
             out.append((char) x.form(i));
         }
         return out.toString();
@@ -87,7 +88,8 @@ final class Check {
 
     static String type(TypeOrThing x, int k) {
         StringBuilder out = new StringBuilder();
-        for (int i = 0; i < x.about(k, 2); i++) {
+        int length = x.about(k, 2);
+        for (int i = 0; i < length; i++) {
             out.append((char) x.typeAt(k, i));
         }
         return out.toString();
