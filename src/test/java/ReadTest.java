@@ -25,6 +25,7 @@ public final class ReadTest {
         openStatements();
         longChains();
         readsAnew();
+        readsMany();
         Check.end();
     }
 
@@ -66,6 +67,8 @@ public final class ReadTest {
         program("char x=!1;void y=&x;");
         refused("int abcdefgh @ijklm;");
         refused("int abcdefgh@9;");
+        // The ninth character is no name of its own, though one would fit.
+        refused("typedef int abcdefgh;abcdefgh@x;");
         refused("int typedefa @b;");
         refused("int x=1234@5;");
         refused("int x=12@ab;");
@@ -495,8 +498,30 @@ public final class ReadTest {
         Check.due("at()", x.at(), 4);
         Check.throwsDue("form(0)", IndexOutOfBoundsException.class, () -> x.form(0));
         Check.throwsDue("about(0, 0)", IndexOutOfBoundsException.class, () -> x.about(0, 0));
+        Check.due("role(1) behind a text that is none", x.role(1), -1);
+        Check.due("meaning(1) behind a text that is none", x.meaning(1), -1);
         x.cut(0);
         Check.due("read() of nothing", x.read(), 0);
         TextTest.nothingIsTold(x, "an empty program behind others");
+    }
+
+    /** Nothing of what was read before, a program or not, is left in the next one. */
+    private static void readsMany() {
+        TypeOrThing x = Check.typed("typedef int t;t f(t a){a;}");
+        Check.due("read()", x.read(), 14);
+        x.cut(0);
+        Check.append(x, "int;int;int;int;int;int;int;int;");
+        Check.due("read() of no names", x.read(), 16);
+        Check.due("its roles", Check.roles(x, 16), "0".repeat(16));
+        Check.due("its meanings", Check.meanings(x, 16), "-".repeat(16));
+        for (int i = 0; i < 3; i++) {
+            x.cut(0);
+            Check.append(x, "int f(int a){((((((" + "!".repeat(140));
+            Check.due("AT of many signs", Check.readAt(x), 153);
+        }
+        x.cut(0);
+        Check.append(x, "int f(){((((((-1))))));}int a=(int)!f;");
+        Check.due("AT of the next", Check.readAt(x), -1);
+        Check.due("its form", Check.form(x), "f:()i{1 ~;}a:if ![i]=;");
     }
 }
