@@ -1,8 +1,12 @@
 import java.util.Objects;
 import java.util.concurrent.Callable;
+import java.util.regex.Pattern;
 
 /** What the tests share: objects with a text, answers as strings, and the count of wrong ones. */
 final class Check {
+    private static final Pattern TOKEN =
+        Pattern.compile("[a-z][a-z0-9]{0,7}|[0-9]{1,4}|[^ \n]");
+
     private static int wrong = 0;
 
     private Check() {
@@ -22,6 +26,10 @@ final class Check {
         } catch (Exception e) {
             due(call + " throws", e.getClass(), want);
         }
+    }
+
+    static void outOfBounds(String call, Callable<?> body) {
+        throwsDue(call, IndexOutOfBoundsException.class, body);
     }
 
     static void end() {
@@ -73,8 +81,39 @@ final class Check {
         due("AT of " + text, readAt(typed(text)), want);
     }
 
+    static int countTokens(String text) {
+        return (int) TOKEN.matcher(text).results().count();
+    }
+
+    /** A text that is none; the first '@' in it is no part of it, but stands before the token AT. */
+    static void refused(String marked) {
+        int mark = marked.indexOf('@');
+        String before = marked.substring(0, mark);
+        atDue(before + marked.substring(mark + 1), countTokens(before));
+    }
+
+    static void program(String text) {
+        TypeOrThing x = read(text);
+        int tokens = -1;
+        try {
+            tokens = x.read();
+        } catch (IllegalArgumentException e) {
+            due("read() again of " + text, "throws", "no exception");
+        }
+        due("read() of " + text, tokens, countTokens(text));
+        due("role behind the last token of " + text, x.role(tokens), -1);
+    }
+
     static void formDue(String program, String want) {
         due("the form of " + program, form(read(program)), want);
+    }
+
+    static void typesDue(String program, String want) {
+        due("the types of " + program, types(read(program)), want);
+    }
+
+    static void partsDue(String program, int part, String want) {
+        due("part " + part + " of " + program, parts(read(program), part), want);
     }
 
     static String form(TypeOrThing x) {

@@ -136,7 +136,7 @@ public final class FormTest {
         Check.due("form(0)", x.form(0), (int) 'a');
         Check.due("form(3)", x.form(3), (int) ';');
         for (int i : new int[] {-1, 4, 5, 640, Integer.MIN_VALUE, Integer.MAX_VALUE}) {
-            Check.throwsDue("form(" + i + ")", IndexOutOfBoundsException.class, () -> x.form(i));
+            Check.outOfBounds("form(" + i + ")", () -> x.form(i));
         }
     }
 }

@@ -26,14 +26,6 @@ public final class NamesTest {
         Check.due("the meanings of " + program, Check.meanings(x, want.length()), want);
     }
 
-    private static void partsDue(String program, int part, String want) {
-        Check.due("part " + part + " of " + program, Check.parts(Check.read(program), part), want);
-    }
-
-    private static void typesDue(String program, String want) {
-        Check.due("the types of " + program, Check.types(Check.read(program)), want);
-    }
-
     private static void roles() {
         rolesDue("int a;", "040");
         rolesDue("typedef int t;t*a=&a;", "0030" + "1040020");
@@ -66,65 +58,65 @@ public final class NamesTest {
     }
 
     private static void numbersOfDeclarations() {
-        partsDue("", 0, "");
-        partsDue("int;typedef int;", 0, "");
-        partsDue("int a,b;char c;", 0, "1 3 6");
+        Check.partsDue("", 0, "");
+        Check.partsDue("int;typedef int;", 0, "");
+        Check.partsDue("int a,b;char c;", 0, "1 3 6");
         // A declarator ends behind its parameters, so these come first.
-        partsDue("int f(int a,int,char b(int c)),d;", 0, "4 12 9 1 16");
-        partsDue("int(*f(int a))(int b){int c;}", 0, "6 11 3 15");
-        partsDue("int x=(int(int a))1,b;", 0, "1 7 12");
+        Check.partsDue("int f(int a,int,char b(int c)),d;", 0, "4 12 9 1 16");
+        Check.partsDue("int(*f(int a))(int b){int c;}", 0, "6 11 3 15");
+        Check.partsDue("int x=(int(int a))1,b;", 0, "1 7 12");
         Check.due("declared()", Check.read("int f(int a,int b);").declared(), 3);
     }
 
     private static void depths() {
-        partsDue("int a;typedef int t;", 1, "1 1");
-        partsDue("int f(int a,int b(int c));", 1, "2 3 2 1");
-        partsDue("int f(int a){int b;{int c;{int d;}int e;}int g;}int h;", 1, "2 1 2 3 4 3 2 1");
-        partsDue("int f(){int x=(int(int a))1;}", 1, "1 2 3");
-        partsDue("int f(){if(1){int a;}}", 1, "1 3");
-        partsDue("int f(){{{{{{{int a;}}}}}}}", 1, "1 8");
-        partsDue("int f(){{{{{{{{int a;}}}}}}}}", 1, "1 9");
+        Check.partsDue("int a;typedef int t;", 1, "1 1");
+        Check.partsDue("int f(int a,int b(int c));", 1, "2 3 2 1");
+        Check.partsDue("int f(int a){int b;{int c;{int d;}int e;}int g;}int h;", 1, "2 1 2 3 4 3 2 1");
+        Check.partsDue("int f(){int x=(int(int a))1;}", 1, "1 2 3");
+        Check.partsDue("int f(){if(1){int a;}}", 1, "1 3");
+        Check.partsDue("int f(){{{{{{{int a;}}}}}}}", 1, "1 8");
+        Check.partsDue("int f(){{{{{{{{int a;}}}}}}}}", 1, "1 9");
     }
 
     private static void sorts() {
-        partsDue("int a;typedef int b;int c();typedef int d();", 3, "0 1 2 1");
-        partsDue("int*a();int(*b)();int(c)();int(((d)))();int(*(e))();int(*g())();", 3, "2 0 2 2 0 2");
-        partsDue("int a[2]();int b()[2];int(c[2])();int(d())[2];", 3, "0 2 0 2");
-        partsDue("int f(int g(),int h,int(*i)(),int(j)(void));", 3, "2 0 0 2 2");
-        partsDue("int f(){int g();int h=1;}", 3, "2 2 0");
-        partsDue("typedef int t();t a;", 3, "1 0");
-        partsDue("int f()=1,g()=2;", 3, "2 2");
+        Check.partsDue("int a;typedef int b;int c();typedef int d();", 3, "0 1 2 1");
+        Check.partsDue("int*a();int(*b)();int(c)();int(((d)))();int(*(e))();int(*g())();", 3, "2 0 2 2 0 2");
+        Check.partsDue("int a[2]();int b()[2];int(c[2])();int(d())[2];", 3, "0 2 0 2");
+        Check.partsDue("int f(int g(),int h,int(*i)(),int(j)(void));", 3, "2 0 0 2 2");
+        Check.partsDue("int f(){int g();int h=1;}", 3, "2 2 0");
+        Check.partsDue("typedef int t();t a;", 3, "1 0");
+        Check.partsDue("int f()=1,g()=2;", 3, "2 2");
     }
 
     private static void types() {
-        typesDue("int a;char b;void c;", "i c v");
-        typesDue("int*a,**b,c;", "*i **i i");
-        typesDue("int a[],b[2],c[12][0034];", "[]i [2]i [12][0034]i");
-        typesDue("int*a[2],(*b)[2],*(*c)[2],(*(d[1]))[2];", "[2]*i *[2]i *[2]*i [1]*[2]i");
-        typesDue("int f(),*g(void),(*h)(),(*(*k)[3])();", "()i ()*i *()i *[3]*()i");
-        typesDue("int((a)),(*(*(*b)));", "i ***i");
-        typesDue("int**(*(**a[1])[2])[3],f()()[4];", "[1]**[2]*[3]**i ()()[4]i");
-        partsDue("int a;int*(*b)[12];", 2, "1 7");
+        Check.typesDue("int a;char b;void c;", "i c v");
+        Check.typesDue("int*a,**b,c;", "*i **i i");
+        Check.typesDue("int a[],b[2],c[12][0034];", "[]i [2]i [12][0034]i");
+        Check.typesDue("int*a[2],(*b)[2],*(*c)[2],(*(d[1]))[2];", "[2]*i *[2]i *[2]*i [1]*[2]i");
+        Check.typesDue("int f(),*g(void),(*h)(),(*(*k)[3])();", "()i ()*i *()i *[3]*()i");
+        Check.typesDue("int((a)),(*(*(*b)));", "i ***i");
+        Check.typesDue("int**(*(**a[1])[2])[3],f()()[4];", "[1]**[2]*[3]**i ()()[4]i");
+        Check.partsDue("int a;int*(*b)[12];", 2, "1 7");
     }
 
     private static void typesOfParameters() {
-        typesDue("int f(int,char*,void);", "(i,*c,v)i");
-        typesDue("int f(void*),g(void,int),h(void(void));", "(*v)i (v,i)i (()v)i");
-        typesDue("int f(int a,char*b[2]);", "i [2]*c (i,[2]*c)i");
-        typesDue("int f(int(*a)(char b),int);", "c *(c)i (*(c)i,i)i");
-        typesDue("int f(int(),int(*)[2],int([2]),int(()),int(*()));", "(()i,*[2]i,[2]i,()i,()*i)i");
-        typesDue("int f(int(a),int((b)));", "i i (i,i)i");
-        typesDue("int f(int())(char)[2];", "(()i)(c)[2]i");
+        Check.typesDue("int f(int,char*,void);", "(i,*c,v)i");
+        Check.typesDue("int f(void*),g(void,int),h(void(void));", "(*v)i (v,i)i (()v)i");
+        Check.typesDue("int f(int a,char*b[2]);", "i [2]*c (i,[2]*c)i");
+        Check.typesDue("int f(int(*a)(char b),int);", "c *(c)i (*(c)i,i)i");
+        Check.typesDue("int f(int(),int(*)[2],int([2]),int(()),int(*()));", "(()i,*[2]i,[2]i,()i,()*i)i");
+        Check.typesDue("int f(int(a),int((b)));", "i i (i,i)i");
+        Check.typesDue("int f(int())(char)[2];", "(()i)(c)[2]i");
     }
 
     private static void typesOfNames() {
-        typesDue("typedef int t;t a,*b,c[2];", "i 0. *0. [2]0.");
-        typesDue("typedef int t;typedef t*u;u f(t,u a);", "i *0. 1. (0.,1.)1.");
-        typesDue("typedef int t;int f(int(t),t(t),t(u));", "i 0. ((0.)i,(0.)0.,0.)i");
-        typesDue("typedef int t;int f(t(*t)(t));", "i *(0.)0. (*(0.)0.)i");
-        typesDue("typedef int t;int f(){t a,t,b;}", "i ()i 0. 0. 0.");
-        typesDue("typedef int t;int f(){typedef char t;t a;}t b;", "i ()i c 2. 0.");
-        typesDue("int a,b,c,d,e,f,g,h,i,j;typedef int t;t x;t*y(t);",
+        Check.typesDue("typedef int t;t a,*b,c[2];", "i 0. *0. [2]0.");
+        Check.typesDue("typedef int t;typedef t*u;u f(t,u a);", "i *0. 1. (0.,1.)1.");
+        Check.typesDue("typedef int t;int f(int(t),t(t),t(u));", "i 0. ((0.)i,(0.)0.,0.)i");
+        Check.typesDue("typedef int t;int f(t(*t)(t));", "i *(0.)0. (*(0.)0.)i");
+        Check.typesDue("typedef int t;int f(){t a,t,b;}", "i ()i 0. 0. 0.");
+        Check.typesDue("typedef int t;int f(){typedef char t;t a;}t b;", "i ()i c 2. 0.");
+        Check.typesDue("int a,b,c,d,e,f,g,h,i,j;typedef int t;t x;t*y(t);",
             "i i i i i i i i i i i 10. (10.)*10.");
     }
 
@@ -133,14 +125,14 @@ public final class NamesTest {
         Check.due("about(1, 0)", x.about(1, 0), 5);
         Check.due("typeAt(1, 1)", x.typeAt(1, 1), (int) 'c');
         for (int i : new int[] {-1, 2, 3, 80, 160, Integer.MIN_VALUE, Integer.MAX_VALUE}) {
-            Check.throwsDue("about(" + i + ", 0)", IndexOutOfBoundsException.class, () -> x.about(i, 0));
-            Check.throwsDue("typeAt(" + i + ", 0)", IndexOutOfBoundsException.class, () -> x.typeAt(i, 0));
-            Check.throwsDue("typeAt(1, " + i + ")", IndexOutOfBoundsException.class, () -> x.typeAt(1, i));
+            Check.outOfBounds("about(" + i + ", 0)", () -> x.about(i, 0));
+            Check.outOfBounds("typeAt(" + i + ", 0)", () -> x.typeAt(i, 0));
+            Check.outOfBounds("typeAt(1, " + i + ")", () -> x.typeAt(1, i));
         }
-        Check.throwsDue("typeAt(0, 1)", IndexOutOfBoundsException.class, () -> x.typeAt(0, 1));
+        Check.outOfBounds("typeAt(0, 1)", () -> x.typeAt(0, 1));
         for (int part : new int[] {-1, 4, 5, Integer.MIN_VALUE, Integer.MAX_VALUE}) {
-            Check.throwsDue("about(0, " + part + ")", IndexOutOfBoundsException.class, () -> x.about(0, part));
-            Check.throwsDue("about(9, " + part + ")", IndexOutOfBoundsException.class, () -> x.about(9, part));
+            Check.outOfBounds("about(0, " + part + ")", () -> x.about(0, part));
+            Check.outOfBounds("about(9, " + part + ")", () -> x.about(9, part));
         }
     }
 

@@ -1,11 +1,5 @@
-import java.util.regex.Matcher;
-import java.util.regex.Pattern;
-
 /** Promises 4 and 5: read and at. In the texts that are none, '@' stands before the token AT. */
 public final class ReadTest {
-    private static final Pattern TOKEN =
-        Pattern.compile("[a-z][a-z0-9]{0,7}|[0-9]{1,4}|[^ \n]");
-
     public static void main(String[] args) {
         tokens();
         unfitTokens();
@@ -29,58 +23,31 @@ public final class ReadTest {
         Check.end();
     }
 
-    private static int countTokens(String text) {
-        Matcher m = TOKEN.matcher(text);
-        int count = 0;
-        while (m.find()) {
-            count++;
-        }
-        return count;
-    }
-
-    private static void refused(String marked) {
-        int mark = marked.indexOf('@');
-        String before = marked.substring(0, mark);
-        Check.atDue(before + marked.substring(mark + 1), countTokens(before));
-    }
-
-    private static void program(String text) {
-        TypeOrThing x = Check.read(text);
-        int tokens = -1;
-        try {
-            tokens = x.read();
-        } catch (IllegalArgumentException e) {
-            Check.due("read() again of " + text, "throws", "no exception");
-        }
-        Check.due("read() of " + text, tokens, countTokens(text));
-        Check.due("role behind the last token of " + text, x.role(tokens), -1);
-    }
-
     private static void tokens() {
-        program("int a;");
-        program("\n int\na\n;\n ");
-        program("int*a[12];");
-        program("int abcdefgh;");
-        program("int a1b2c3d4=1234;");
-        program("int inta,int1,voidx,ifelse;");
-        program("int x=1-2+3*4/5<6;");
-        program("char x=!1;void y=&x;");
-        refused("int abcdefgh @ijklm;");
-        refused("int abcdefgh@9;");
+        Check.program("int a;");
+        Check.program("\n int\na\n;\n ");
+        Check.program("int*a[12];");
+        Check.program("int abcdefgh;");
+        Check.program("int a1b2c3d4=1234;");
+        Check.program("int inta,int1,voidx,ifelse;");
+        Check.program("int x=1-2+3*4/5<6;");
+        Check.program("char x=!1;void y=&x;");
+        Check.refused("int abcdefgh @ijklm;");
+        Check.refused("int abcdefgh@9;");
         // The ninth character is no name of its own, though one would fit.
-        refused("typedef int abcdefgh;abcdefgh@x;");
-        refused("int typedefa @b;");
-        refused("int x=1234@5;");
-        refused("int x=12@ab;");
-        refused("int x=1234@a;");
-        refused("int x=1@ 2;");
-        refused("int x @y;");
-        refused("int @1;");
-        refused("@int1;");
-        refused("@in");
+        Check.refused("typedef int abcdefgh;abcdefgh@x;");
+        Check.refused("int typedefa @b;");
+        Check.refused("int x=1234@5;");
+        Check.refused("int x=12@ab;");
+        Check.refused("int x=1234@a;");
+        Check.refused("int x=1@ 2;");
+        Check.refused("int x @y;");
+        Check.refused("int @1;");
+        Check.refused("@int1;");
+        Check.refused("@in");
         // Not one word: a blank ends it.
-        refused("@i nt x;");
-        refused("int a@\nb;");
+        Check.refused("@i nt x;");
+        Check.refused("int a@\nb;");
     }
 
     private static void unfitTokens() {
@@ -93,389 +60,389 @@ public final class ReadTest {
     }
 
     private static void outermost() {
-        program("");
-        program(" \n");
-        program("int;");
-        program("int a,b;char c;void d;");
-        refused("@;");
-        refused("int a;@;");
-        refused("@a;");
-        refused("@1;");
-        refused("@{}");
-        refused("@}");
-        refused("@if(1);");
-        refused("int f(){}@;");
-        refused("int@");
-        refused("int a@");
-        refused("int a,@");
-        refused("int a,@;");
-        refused("int a=@");
-        refused("int a=@;");
-        refused("int a=1@");
-        refused("int a@{}");
-        refused("int a=1@=2;");
-        refused("int a=1 @b;");
+        Check.program("");
+        Check.program(" \n");
+        Check.program("int;");
+        Check.program("int a,b;char c;void d;");
+        Check.refused("@;");
+        Check.refused("int a;@;");
+        Check.refused("@a;");
+        Check.refused("@1;");
+        Check.refused("@{}");
+        Check.refused("@}");
+        Check.refused("@if(1);");
+        Check.refused("int f(){}@;");
+        Check.refused("int@");
+        Check.refused("int a@");
+        Check.refused("int a,@");
+        Check.refused("int a,@;");
+        Check.refused("int a=@");
+        Check.refused("int a=@;");
+        Check.refused("int a=1@");
+        Check.refused("int a@{}");
+        Check.refused("int a=1@=2;");
+        Check.refused("int a=1 @b;");
     }
 
     private static void specifiers() {
-        program("typedef int t;");
-        program("int typedef t;t typedef u;typedef u v;v x;");
-        program("typedef int;int typedef;");
-        program("typedef int t=1,u=2;");
-        program("typedef int t;t;t typedef;");
-        refused("typedef@;");
-        refused("typedef @typedef int t;");
-        refused("typedef int @typedef t;");
-        refused("int typedef @typedef t;");
-        refused("int @int a;");
-        refused("int @char a;");
-        refused("typedef @t;");
-        refused("typedef int t;t @int a;");
-        refused("int a;@a b;");
-        refused("typedef int t;t @t;");
-        refused("typedef int t;t typedef @t;");
-        refused("typedef int t,@t;");
-        refused("int @sizeof;");
-        refused("@sizeof");
+        Check.program("typedef int t;");
+        Check.program("int typedef t;t typedef u;typedef u v;v x;");
+        Check.program("typedef int;int typedef;");
+        Check.program("typedef int t=1,u=2;");
+        Check.program("typedef int t;t;t typedef;");
+        Check.refused("typedef@;");
+        Check.refused("typedef @typedef int t;");
+        Check.refused("typedef int @typedef t;");
+        Check.refused("int typedef @typedef t;");
+        Check.refused("int @int a;");
+        Check.refused("int @char a;");
+        Check.refused("typedef @t;");
+        Check.refused("typedef int t;t @int a;");
+        Check.refused("int a;@a b;");
+        Check.refused("typedef int t;t @t;");
+        Check.refused("typedef int t;t typedef @t;");
+        Check.refused("typedef int t,@t;");
+        Check.refused("int @sizeof;");
+        Check.refused("@sizeof");
     }
 
     private static void declarators() {
-        program("int**a,*(*b),((c)),(*d)[2],*e[],(*(*g)(int))[3][4];");
-        program("int f()(int)[2]();");
-        refused("int *@;");
-        refused("int(@);");
-        refused("int(*@);");
-        refused("int(a@;");
-        refused("int(a@ b);");
-        refused("int(@1);");
-        refused("int(@[2]);");
-        refused("int@[2];");
-        refused("int a[@b];");
-        refused("int a[1@ 2];");
-        refused("int a[1@+2];");
-        refused("int a[@-1];");
-        refused("int a[2@;");
-        refused("int a[2]@b;");
-        refused("int(a)@b;");
-        refused("int a@*b;");
-        refused("int a;int(*@a)[2];");
-        refused("int a,(@a);");
-        refused("int(@int);");
-        refused("int (a)@)");
+        Check.program("int**a,*(*b),((c)),(*d)[2],*e[],(*(*g)(int))[3][4];");
+        Check.program("int f()(int)[2]();");
+        Check.refused("int *@;");
+        Check.refused("int(@);");
+        Check.refused("int(*@);");
+        Check.refused("int(a@;");
+        Check.refused("int(a@ b);");
+        Check.refused("int(@1);");
+        Check.refused("int(@[2]);");
+        Check.refused("int@[2];");
+        Check.refused("int a[@b];");
+        Check.refused("int a[1@ 2];");
+        Check.refused("int a[1@+2];");
+        Check.refused("int a[@-1];");
+        Check.refused("int a[2@;");
+        Check.refused("int a[2]@b;");
+        Check.refused("int(a)@b;");
+        Check.refused("int a@*b;");
+        Check.refused("int a;int(*@a)[2];");
+        Check.refused("int a,(@a);");
+        Check.refused("int(@int);");
+        Check.refused("int (a)@)");
     }
 
     private static void parameters() {
-        program("int f(),g(void),h(void*),i(void,int),j(int,void),k(void x),l(void(void));");
-        program("int f(int,char*,int[],int[3],int(),int*(*)[2]);");
-        program("int f(int a,int b(int a,int b),int c);");
-        program("int f(int(x),int(*y),int((z)),int*(w)(int));");
-        program("typedef int t;int f(int(t),t(t),t t);");
-        program("typedef int t;int f(int(*t));");
-        program("typedef int t;int f(int((t)),int(()),int([2]));");
-        program("int f(int f);int x(int(x));");
-        refused("int f(@,int);");
-        refused("int f(int,@);");
-        refused("int f(int@;");
-        refused("int f(void@;");
-        refused("int f(void@");
-        refused("int f(@x);");
-        refused("int f(@typedef int x);");
-        refused("int f(int @typedef x);");
-        refused("int f(int x@=1);");
-        refused("int f(int x,int @x);");
-        refused("int f(int x,int(@x));");
-        refused("int f(int x,int(*@x));");
-        refused("typedef char t;int f(int t,@t x);");
-        refused("typedef int t;int f(int t,int(@t));");
-        refused("typedef int t;int f(int t(@1));");
-        refused("int f(int x(@x));");
-        refused("int f(int x @y);");
-        refused("int f(int(x)@y);");
-        refused("int f(int(x)(@y));");
-        refused("int f(int(x)(@*));");
-        refused("int f(int[2](@*));");
-        refused("int f(int[2]@x);");
-        refused("int f(int(*)@x);");
-        refused("int f(int(@1));");
-        refused("int f(int(*@int));");
-        refused("int f(int((x)@y));");
-        refused("int f(int @int);");
-        refused("int f(@1);");
+        Check.program("int f(),g(void),h(void*),i(void,int),j(int,void),k(void x),l(void(void));");
+        Check.program("int f(int,char*,int[],int[3],int(),int*(*)[2]);");
+        Check.program("int f(int a,int b(int a,int b),int c);");
+        Check.program("int f(int(x),int(*y),int((z)),int*(w)(int));");
+        Check.program("typedef int t;int f(int(t),t(t),t t);");
+        Check.program("typedef int t;int f(int(*t));");
+        Check.program("typedef int t;int f(int((t)),int(()),int([2]));");
+        Check.program("int f(int f);int x(int(x));");
+        Check.refused("int f(@,int);");
+        Check.refused("int f(int,@);");
+        Check.refused("int f(int@;");
+        Check.refused("int f(void@;");
+        Check.refused("int f(void@");
+        Check.refused("int f(@x);");
+        Check.refused("int f(@typedef int x);");
+        Check.refused("int f(int @typedef x);");
+        Check.refused("int f(int x@=1);");
+        Check.refused("int f(int x,int @x);");
+        Check.refused("int f(int x,int(@x));");
+        Check.refused("int f(int x,int(*@x));");
+        Check.refused("typedef char t;int f(int t,@t x);");
+        Check.refused("typedef int t;int f(int t,int(@t));");
+        Check.refused("typedef int t;int f(int t(@1));");
+        Check.refused("int f(int x(@x));");
+        Check.refused("int f(int x @y);");
+        Check.refused("int f(int(x)@y);");
+        Check.refused("int f(int(x)(@y));");
+        Check.refused("int f(int(x)(@*));");
+        Check.refused("int f(int[2](@*));");
+        Check.refused("int f(int[2]@x);");
+        Check.refused("int f(int(*)@x);");
+        Check.refused("int f(int(@1));");
+        Check.refused("int f(int(*@int));");
+        Check.refused("int f(int((x)@y));");
+        Check.refused("int f(int @int);");
+        Check.refused("int f(@1);");
     }
 
     private static void abstracts() {
-        program("int x=(int*)1;int y=(int(*)[2])x;int z=(int(*)(int a,int(b)))x;");
-        program("int x=(int())1+(int(int))2+(int[])3+(int[2][3])4+(int(()))5;");
-        program("int x=sizeof(int(*(*)(void))[2]);");
-        program("typedef int t;int x=(int(t))1;");
-        refused("int x=(int @x)1;");
-        refused("int x=(int* @y)1;");
-        refused("int x=(int(@x))1;");
-        refused("int x=(int(*@x))1;");
-        refused("int x=(int(@y))1;");
-        refused("int x=(int(*)@*)1;");
-        refused("int x=(int@,int)1;");
-        refused("int x=(int@ int)1;");
-        refused("int x=(int@ typedef)1;");
-        refused("int x=(@typedef int)1;");
-        refused("int x=(int(int a,int @a))1;");
+        Check.program("int x=(int*)1;int y=(int(*)[2])x;int z=(int(*)(int a,int(b)))x;");
+        Check.program("int x=(int())1+(int(int))2+(int[])3+(int[2][3])4+(int(()))5;");
+        Check.program("int x=sizeof(int(*(*)(void))[2]);");
+        Check.program("typedef int t;int x=(int(t))1;");
+        Check.refused("int x=(int @x)1;");
+        Check.refused("int x=(int* @y)1;");
+        Check.refused("int x=(int(@x))1;");
+        Check.refused("int x=(int(*@x))1;");
+        Check.refused("int x=(int(@y))1;");
+        Check.refused("int x=(int(*)@*)1;");
+        Check.refused("int x=(int@,int)1;");
+        Check.refused("int x=(int@ int)1;");
+        Check.refused("int x=(int@ typedef)1;");
+        Check.refused("int x=(@typedef int)1;");
+        Check.refused("int x=(int(int a,int @a))1;");
     }
 
     private static void functions() {
-        program("int f(){}int*g(int a){a;}int(h)(int a){a;}int((k))(int a){a;}");
-        program("int*(*f(int a))(int b){a;}");
-        program("int f(int a)(int b){a;}");
-        program("int f()[2]{}");
-        program("int f(int g()){g();}");
-        refused("int(*f)()@{}");
-        refused("int f[2]()@{}");
-        refused("int(f[2])()@{}");
-        refused("typedef int f()@{}");
-        refused("int typedef f()@{}");
-        refused("int a,f()@{}");
-        refused("int f(),g()@{}");
-        refused("int f()=1@{}");
-        refused("int f()@");
-        refused("int f(){@");
-        refused("typedef int t();t f@{}");
-        refused("int(*g(int a))(int b){a;@b;}");
-        refused("int f(int a)(int b){a;@b;}");
-        refused("int f(int b(int a)){b;@a;}");
-        refused("int f(){int g()@{}}");
+        Check.program("int f(){}int*g(int a){a;}int(h)(int a){a;}int((k))(int a){a;}");
+        Check.program("int*(*f(int a))(int b){a;}");
+        Check.program("int f(int a)(int b){a;}");
+        Check.program("int f()[2]{}");
+        Check.program("int f(int g()){g();}");
+        Check.refused("int(*f)()@{}");
+        Check.refused("int f[2]()@{}");
+        Check.refused("int(f[2])()@{}");
+        Check.refused("typedef int f()@{}");
+        Check.refused("int typedef f()@{}");
+        Check.refused("int a,f()@{}");
+        Check.refused("int f(),g()@{}");
+        Check.refused("int f()=1@{}");
+        Check.refused("int f()@");
+        Check.refused("int f(){@");
+        Check.refused("typedef int t();t f@{}");
+        Check.refused("int(*g(int a))(int b){a;@b;}");
+        Check.refused("int f(int a)(int b){a;@b;}");
+        Check.refused("int f(int b(int a)){b;@a;}");
+        Check.refused("int f(){int g()@{}}");
     }
 
     private static void scopes() {
-        program("int f(int a){{int a;}}");
-        program("int f(int f){f;}");
-        program("int f(int a){f;}int g(int a){a;f;}");
-        program("typedef int t;int f(t t){t;}t x;");
-        program("typedef int t;int f(){t t;t=1;}int g(){t x;x;}");
-        program("typedef int t;int f(){t a,t,b;t*b;}");
-        program("typedef int t;int f(){t t=t;}");
-        program("int f(){typedef int t;{int t;t;}t x;}");
-        program("int x=x;int y=x,z=y;");
-        refused("int f(int a){int @a;}");
-        refused("int f(int a){int b;int @b;}");
-        refused("int f(int a){{int a;}int @a;}");
-        refused("int f(int a){}int b=@a;");
-        refused("int f(){{int a;}@a;}");
-        refused("int f(){@a;int a;}");
-        refused("int f(){typedef int t;}@t x;");
-        refused("typedef int t;int f(int t){t @x;}");
-        refused("typedef int t;int f(){int t;t @x;}");
-        refused("typedef int t;int f(){t t;t @x;}");
-        refused("int f(int a),b=@a;");
-        refused("int f();int @f(){}");
-        refused("int a=@b,b;");
-        refused("int x=@y;");
-        refused("int x=(int(*)(int a))1+@a;");
+        Check.program("int f(int a){{int a;}}");
+        Check.program("int f(int f){f;}");
+        Check.program("int f(int a){f;}int g(int a){a;f;}");
+        Check.program("typedef int t;int f(t t){t;}t x;");
+        Check.program("typedef int t;int f(){t t;t=1;}int g(){t x;x;}");
+        Check.program("typedef int t;int f(){t a,t,b;t*b;}");
+        Check.program("typedef int t;int f(){t t=t;}");
+        Check.program("int f(){typedef int t;{int t;t;}t x;}");
+        Check.program("int x=x;int y=x,z=y;");
+        Check.refused("int f(int a){int @a;}");
+        Check.refused("int f(int a){int b;int @b;}");
+        Check.refused("int f(int a){{int a;}int @a;}");
+        Check.refused("int f(int a){}int b=@a;");
+        Check.refused("int f(){{int a;}@a;}");
+        Check.refused("int f(){@a;int a;}");
+        Check.refused("int f(){typedef int t;}@t x;");
+        Check.refused("typedef int t;int f(int t){t @x;}");
+        Check.refused("typedef int t;int f(){int t;t @x;}");
+        Check.refused("typedef int t;int f(){t t;t @x;}");
+        Check.refused("int f(int a),b=@a;");
+        Check.refused("int f();int @f(){}");
+        Check.refused("int a=@b,b;");
+        Check.refused("int x=@y;");
+        Check.refused("int x=(int(*)(int a))1+@a;");
     }
 
     private static void blocks() {
-        program("int f(){int;typedef char c;c x=1,*y;;{}{;}x;}");
-        program("typedef int t;int f(){t;t*x;t(y);t(*z)(t);}");
-        program("int t;int f(int x){t*x;t(x);(t)*x;}");
-        refused("int f(){int x@}");
-        refused("int f(){int x=1@}");
-        refused("int f(){1@}");
-        refused("int f(){1;}@}");
-        refused("int f(){{}@");
-        refused("typedef int t;int f(){t@=1;}");
-        refused("typedef int t;int f(){t@+1;}");
-        refused("typedef int t;int f(){t x;t@ 1;}");
-        refused("int f(){@,}");
-        refused("int f(){@)}");
+        Check.program("int f(){int;typedef char c;c x=1,*y;;{}{;}x;}");
+        Check.program("typedef int t;int f(){t;t*x;t(y);t(*z)(t);}");
+        Check.program("int t;int f(int x){t*x;t(x);(t)*x;}");
+        Check.refused("int f(){int x@}");
+        Check.refused("int f(){int x=1@}");
+        Check.refused("int f(){1@}");
+        Check.refused("int f(){1;}@}");
+        Check.refused("int f(){{}@");
+        Check.refused("typedef int t;int f(){t@=1;}");
+        Check.refused("typedef int t;int f(){t@+1;}");
+        Check.refused("typedef int t;int f(){t x;t@ 1;}");
+        Check.refused("int f(){@,}");
+        Check.refused("int f(){@)}");
     }
 
     private static void statements() {
-        program("int f(){if(1);if(1);else;if(1)if(2);else;else;while(1);while(1)while(2){}return;return 1;}");
-        program("int f(){if(1){}else if(2){}else{}}");
-        refused("int f(){@else;}");
-        refused("int f(){if(1);else;@else;}");
-        refused("int f(){if(1)if(2);else;else;@else;}");
-        refused("int f(){while(1);@else;}");
-        refused("int f(){if(1){}else{};@else;}");
-        refused("int f(){if@;}");
-        refused("int f(){if(@);}");
-        refused("int f(){if(1@;}");
-        refused("int f(){if(1)@}");
-        refused("int f(){if(1)@else;}");
-        refused("int f(){if(1)@int x;}");
-        refused("int f(){if(1)@typedef int t;}");
-        refused("typedef int t;int f(){if(1)@t x;}");
-        refused("typedef int t;int f(){while(1)@t;}");
-        refused("int f(){if(1);else @int x;}");
-        refused("int f(){if(@int)1;}");
-        refused("int f(){while @1;}");
-        refused("int f(){while(1)@}");
-        refused("int f(){return @return;}");
-        refused("int f(){return@}");
-        refused("int f(){return 1@}");
-        refused("int f(){return @int;}");
-        refused("int f(){if(1@;)}");
+        Check.program("int f(){if(1);if(1);else;if(1)if(2);else;else;while(1);while(1)while(2){}return;return 1;}");
+        Check.program("int f(){if(1){}else if(2){}else{}}");
+        Check.refused("int f(){@else;}");
+        Check.refused("int f(){if(1);else;@else;}");
+        Check.refused("int f(){if(1)if(2);else;else;@else;}");
+        Check.refused("int f(){while(1);@else;}");
+        Check.refused("int f(){if(1){}else{};@else;}");
+        Check.refused("int f(){if@;}");
+        Check.refused("int f(){if(@);}");
+        Check.refused("int f(){if(1@;}");
+        Check.refused("int f(){if(1)@}");
+        Check.refused("int f(){if(1)@else;}");
+        Check.refused("int f(){if(1)@int x;}");
+        Check.refused("int f(){if(1)@typedef int t;}");
+        Check.refused("typedef int t;int f(){if(1)@t x;}");
+        Check.refused("typedef int t;int f(){while(1)@t;}");
+        Check.refused("int f(){if(1);else @int x;}");
+        Check.refused("int f(){if(@int)1;}");
+        Check.refused("int f(){while @1;}");
+        Check.refused("int f(){while(1)@}");
+        Check.refused("int f(){return @return;}");
+        Check.refused("int f(){return@}");
+        Check.refused("int f(){return 1@}");
+        Check.refused("int f(){return @int;}");
+        Check.refused("int f(){if(1@;)}");
     }
 
     private static void expressions() {
-        program("int f(int a){a<a;a+a-a*a/a;-a;*a;&a;!a;(a);a[a];a();a(a,a<a,a=a);a[1](2)[3];}");
-        program("int f(int a){-*&!a;- -a;a- -a;a**a;}");
-        program("int f(int a){a=a=a<a;(a<a)<a;a<(a<a);1[a];(1)(a);}");
-        refused("int f(int a){a<a@<a;}");
-        refused("int f(int a){a=a<a@<a;}");
-        refused("int f(int a){a@&a;}");
-        refused("int f(int a){a@!a;}");
-        refused("int f(int a){a+@;}");
-        refused("int f(int a){a+@+a;}");
-        refused("int f(int a){a/@/a;}");
-        refused("int f(int a){a@ a;}");
-        refused("int f(int a){a@ 1;}");
-        refused("int f(int a){1@ a;}");
-        refused("int f(int a){(@);}");
-        refused("int f(int a){(a@;}");
-        refused("int f(int a){a[@];}");
-        refused("int f(int a){a[a@);}");
-        refused("int f(int a){a[1@,2];}");
-        refused("int f(int a){a(@,a);}");
-        refused("int f(int a){a(a,@);}");
-        refused("int f(int a){a(a@;}");
-        refused("int f(int a){(a@,a);}");
-        refused("int f(int a){a@,a;}");
-        refused("int f(int a){a+@int;}");
-        refused("typedef int t;int f(){1+@t;}");
-        refused("int f(){@b;}");
-        refused("int f(){1+@b;}");
-        refused("int f(){@+1;}");
-        refused("int f(){@/1;}");
-        refused("int f(){1@{}}");
-        refused("int f(){1+@if;}");
+        Check.program("int f(int a){a<a;a+a-a*a/a;-a;*a;&a;!a;(a);a[a];a();a(a,a<a,a=a);a[1](2)[3];}");
+        Check.program("int f(int a){-*&!a;- -a;a- -a;a**a;}");
+        Check.program("int f(int a){a=a=a<a;(a<a)<a;a<(a<a);1[a];(1)(a);}");
+        Check.refused("int f(int a){a<a@<a;}");
+        Check.refused("int f(int a){a=a<a@<a;}");
+        Check.refused("int f(int a){a@&a;}");
+        Check.refused("int f(int a){a@!a;}");
+        Check.refused("int f(int a){a+@;}");
+        Check.refused("int f(int a){a+@+a;}");
+        Check.refused("int f(int a){a/@/a;}");
+        Check.refused("int f(int a){a@ a;}");
+        Check.refused("int f(int a){a@ 1;}");
+        Check.refused("int f(int a){1@ a;}");
+        Check.refused("int f(int a){(@);}");
+        Check.refused("int f(int a){(a@;}");
+        Check.refused("int f(int a){a[@];}");
+        Check.refused("int f(int a){a[a@);}");
+        Check.refused("int f(int a){a[1@,2];}");
+        Check.refused("int f(int a){a(@,a);}");
+        Check.refused("int f(int a){a(a,@);}");
+        Check.refused("int f(int a){a(a@;}");
+        Check.refused("int f(int a){(a@,a);}");
+        Check.refused("int f(int a){a@,a;}");
+        Check.refused("int f(int a){a+@int;}");
+        Check.refused("typedef int t;int f(){1+@t;}");
+        Check.refused("int f(){@b;}");
+        Check.refused("int f(){1+@b;}");
+        Check.refused("int f(){@+1;}");
+        Check.refused("int f(){@/1;}");
+        Check.refused("int f(){1@{}}");
+        Check.refused("int f(){1+@if;}");
     }
 
     private static void places() {
-        program("int f(int a){a=1;*a=1;*(a)=1;*1=2;**a=1;*-a=1;a[1]=1;a(1)=1;1[2]=3;1()=2;(a)[1]=2;(a)()=3;}");
-        program("int f(int a){*(int)a=1;*sizeof a=1;*sizeof(int)=1;*a[1]=2;(a=1);a[a=1];a(a=1);a=*a=a;}");
-        refused("int f(int a){1@=2;}");
-        refused("int f(int a){(a)@=2;}");
-        refused("int f(int a){((a))@=2;}");
-        refused("int f(int a){(*a)@=2;}");
-        refused("int f(int a){(a[1])@=2;}");
-        refused("int f(int a){-a@=2;}");
-        refused("int f(int a){&a@=2;}");
-        refused("int f(int a){!a@=2;}");
-        refused("int f(int a){-*a@=2;}");
-        refused("int f(int a){a+a@=2;}");
-        refused("int f(int a){a*a@=2;}");
-        refused("int f(int a){*a*a@=2;}");
-        refused("int f(int a){*a+a@=2;}");
-        refused("int f(int a){1+*a@=2;}");
-        refused("int f(int a){a<a@=2;}");
-        refused("int f(int a){a<*a@=2;}");
-        refused("int f(int a){(int)a@=2;}");
-        refused("int f(int a){(int)*a@=2;}");
-        refused("int f(int a){sizeof a@=2;}");
-        refused("int f(int a){sizeof(int)@=2;}");
-        refused("int f(int a){sizeof*a@=2;}");
-        refused("int f(int a){a=1@=2;}");
-        refused("int f(int a){a=a+a@=2;}");
-        refused("int f(int a){a=@=2;}");
-        refused("int x=1@=2;");
+        Check.program("int f(int a){a=1;*a=1;*(a)=1;*1=2;**a=1;*-a=1;a[1]=1;a(1)=1;1[2]=3;1()=2;(a)[1]=2;(a)()=3;}");
+        Check.program("int f(int a){*(int)a=1;*sizeof a=1;*sizeof(int)=1;*a[1]=2;(a=1);a[a=1];a(a=1);a=*a=a;}");
+        Check.refused("int f(int a){1@=2;}");
+        Check.refused("int f(int a){(a)@=2;}");
+        Check.refused("int f(int a){((a))@=2;}");
+        Check.refused("int f(int a){(*a)@=2;}");
+        Check.refused("int f(int a){(a[1])@=2;}");
+        Check.refused("int f(int a){-a@=2;}");
+        Check.refused("int f(int a){&a@=2;}");
+        Check.refused("int f(int a){!a@=2;}");
+        Check.refused("int f(int a){-*a@=2;}");
+        Check.refused("int f(int a){a+a@=2;}");
+        Check.refused("int f(int a){a*a@=2;}");
+        Check.refused("int f(int a){*a*a@=2;}");
+        Check.refused("int f(int a){*a+a@=2;}");
+        Check.refused("int f(int a){1+*a@=2;}");
+        Check.refused("int f(int a){a<a@=2;}");
+        Check.refused("int f(int a){a<*a@=2;}");
+        Check.refused("int f(int a){(int)a@=2;}");
+        Check.refused("int f(int a){(int)*a@=2;}");
+        Check.refused("int f(int a){sizeof a@=2;}");
+        Check.refused("int f(int a){sizeof(int)@=2;}");
+        Check.refused("int f(int a){sizeof*a@=2;}");
+        Check.refused("int f(int a){a=1@=2;}");
+        Check.refused("int f(int a){a=a+a@=2;}");
+        Check.refused("int f(int a){a=@=2;}");
+        Check.refused("int x=1@=2;");
     }
 
     private static void castsAndSizeof() {
-        program("typedef int t;int x=(t)1+(t)(x)-(t)-x*(t)*x/(t)&x<(t)(t)!x;");
-        program("typedef int t;int x=sizeof(t)+sizeof(t*)-sizeof x*sizeof(x)/sizeof(x)[1];");
-        program("typedef int t;int x=sizeof-(t)x+sizeof sizeof x-sizeof!x*x;");
-        program("typedef int t;int x=(t)sizeof(t)*sizeof(t)-1;");
-        program("typedef int t;int f(int t){(t)-1;(t)(1);sizeof(t)[1];}");
-        refused("typedef int t;int x=(t)@;");
-        refused("typedef int t;int x=(t)@+1;");
-        refused("typedef int t;int x=(t)@/1;");
-        refused("typedef int t;int x=(t@+1);");
-        refused("typedef int t;int x=(t@ 1);");
-        refused("typedef int t;int x=(t@;");
-        refused("typedef int t;int x=sizeof@;");
-        refused("typedef int t;int x=sizeof @t;");
-        refused("typedef int t;int x=sizeof @int;");
-        refused("typedef int t;int x=sizeof(t)@x;");
-        refused("typedef int t;int x=sizeof(t)@1;");
-        refused("typedef int t;int x=sizeof(t)@(x);");
-        refused("typedef int t;int x=sizeof(t)@[1];");
-        refused("typedef int t;int x=sizeof sizeof(t)@(x);");
-        refused("typedef int t;int x=sizeof(t)@!x;");
-        refused("typedef int t;int x=sizeof-(t)@;");
-        refused("int t;int x=(t)@1;");
-        refused("int t;int x=(t)@x;");
-        refused("int x=(@u)1;");
-        refused("typedef int t;int x=((t)@);");
+        Check.program("typedef int t;int x=(t)1+(t)(x)-(t)-x*(t)*x/(t)&x<(t)(t)!x;");
+        Check.program("typedef int t;int x=sizeof(t)+sizeof(t*)-sizeof x*sizeof(x)/sizeof(x)[1];");
+        Check.program("typedef int t;int x=sizeof-(t)x+sizeof sizeof x-sizeof!x*x;");
+        Check.program("typedef int t;int x=(t)sizeof(t)*sizeof(t)-1;");
+        Check.program("typedef int t;int f(int t){(t)-1;(t)(1);sizeof(t)[1];}");
+        Check.refused("typedef int t;int x=(t)@;");
+        Check.refused("typedef int t;int x=(t)@+1;");
+        Check.refused("typedef int t;int x=(t)@/1;");
+        Check.refused("typedef int t;int x=(t@+1);");
+        Check.refused("typedef int t;int x=(t@ 1);");
+        Check.refused("typedef int t;int x=(t@;");
+        Check.refused("typedef int t;int x=sizeof@;");
+        Check.refused("typedef int t;int x=sizeof @t;");
+        Check.refused("typedef int t;int x=sizeof @int;");
+        Check.refused("typedef int t;int x=sizeof(t)@x;");
+        Check.refused("typedef int t;int x=sizeof(t)@1;");
+        Check.refused("typedef int t;int x=sizeof(t)@(x);");
+        Check.refused("typedef int t;int x=sizeof(t)@[1];");
+        Check.refused("typedef int t;int x=sizeof sizeof(t)@(x);");
+        Check.refused("typedef int t;int x=sizeof(t)@!x;");
+        Check.refused("typedef int t;int x=sizeof-(t)@;");
+        Check.refused("int t;int x=(t)@1;");
+        Check.refused("int t;int x=(t)@x;");
+        Check.refused("int x=(@u)1;");
+        Check.refused("typedef int t;int x=((t)@);");
     }
 
     private static void openBrackets() {
-        program("int x=((((((((1))))))));");
-        refused("int x=((((((((@(1)))))))));");
-        refused("int x=((((((((@(");
-        refused("int x=((((((((@))))))));");
-        program("int((((((((x))))))));");
-        refused("int((((((((@(x)))))))));");
-        program("int((((((((x))))))))[2];");
-        refused("int f(){(((((((@(1))))))));}");
-        program("int f(){{{{{{{{}}}}}}}}");
-        refused("int f(){{{{{{{{@{}}}}}}}}}");
-        program("int f(){((((((1[2]))))));}");
-        refused("int f(){(((((((1@[2])))))));}");
-        refused("int f(){(((((((1@()))))))));}");
-        program("int f(int(*(*(*(*(*(*(*a))))))));");
-        refused("int f(int(*(*(*(*(*(*(*@(*a)))))))));");
-        refused("int f(int(*(*(*(*(*(*(*a@[2]))))))));");
-        program("int f(int(int(int(int(int(int(int(int))))))));");
-        refused("int f(int(int(int(int(int(int(int(int@(int)))))))));");
+        Check.program("int x=((((((((1))))))));");
+        Check.refused("int x=((((((((@(1)))))))));");
+        Check.refused("int x=((((((((@(");
+        Check.refused("int x=((((((((@))))))));");
+        Check.program("int((((((((x))))))));");
+        Check.refused("int((((((((@(x)))))))));");
+        Check.program("int((((((((x))))))))[2];");
+        Check.refused("int f(){(((((((@(1))))))));}");
+        Check.program("int f(){{{{{{{{}}}}}}}}");
+        Check.refused("int f(){{{{{{{{@{}}}}}}}}}");
+        Check.program("int f(){((((((1[2]))))));}");
+        Check.refused("int f(){(((((((1@[2])))))));}");
+        Check.refused("int f(){(((((((1@()))))))));}");
+        Check.program("int f(int(*(*(*(*(*(*(*a))))))));");
+        Check.refused("int f(int(*(*(*(*(*(*(*@(*a)))))))));");
+        Check.refused("int f(int(*(*(*(*(*(*(*a@[2]))))))));");
+        Check.program("int f(int(int(int(int(int(int(int(int))))))));");
+        Check.refused("int f(int(int(int(int(int(int(int(int@(int)))))))));");
         // Brackets that are closed do not count, and what does not fit at all is refused as ever.
-        program("int x=(1)+(2)+(3)+(4)+(5)+(6)+(7)+(8)+(9)+((1));");
-        refused("int x=((((((((1@]");
-        refused("int x=((((((((@");
-        refused("int x=((((((((1@");
+        Check.program("int x=(1)+(2)+(3)+(4)+(5)+(6)+(7)+(8)+(9)+((1));");
+        Check.refused("int x=((((((((1@]");
+        Check.refused("int x=((((((((@");
+        Check.refused("int x=((((((((1@");
     }
 
     private static void openStatements() {
-        program("int f(){if(1)if(1)if(1)if(1)if(1)if(1);}");
-        refused("int f(){if(1)if(1)if(1)if(1)if(1)if(1)if@(1);}");
-        program("int f(){if(1)if(1)if(1)if(1)if(1)while(1);}");
-        refused("int f(){while(1)while(1)while(1)while(1)while(1)while(1)while@(1);}");
-        program("int f(){{{{{{if(1);}}}}}}");
-        refused("int f(){{{{{{{if@(1);}}}}}}}");
-        refused("int f(){{{{{{if(1){@if(1);}}}}}}}");
-        refused("int f(){{{{{{{{@if(1);}}}}}}}}");
-        refused("int f(){{{{{{{{@while(1);}}}}}}}}");
-        program("int f(){{{{{{if(1){}}}}}}}");
-        refused("int f(){{{{{{if(1){@{}}}}}}}}");
-        refused("int f(){{{{{{if(1)(@(1));}}}}}}");
-        refused("int f(){{{{{{while(1){@{}}}}}}}}");
+        Check.program("int f(){if(1)if(1)if(1)if(1)if(1)if(1);}");
+        Check.refused("int f(){if(1)if(1)if(1)if(1)if(1)if(1)if@(1);}");
+        Check.program("int f(){if(1)if(1)if(1)if(1)if(1)while(1);}");
+        Check.refused("int f(){while(1)while(1)while(1)while(1)while(1)while(1)while@(1);}");
+        Check.program("int f(){{{{{{if(1);}}}}}}");
+        Check.refused("int f(){{{{{{{if@(1);}}}}}}}");
+        Check.refused("int f(){{{{{{if(1){@if(1);}}}}}}}");
+        Check.refused("int f(){{{{{{{{@if(1);}}}}}}}}");
+        Check.refused("int f(){{{{{{{{@while(1);}}}}}}}}");
+        Check.program("int f(){{{{{{if(1){}}}}}}}");
+        Check.refused("int f(){{{{{{if(1){@{}}}}}}}}");
+        Check.refused("int f(){{{{{{if(1)(@(1));}}}}}}");
+        Check.refused("int f(){{{{{{while(1){@{}}}}}}}}");
         // An 'if' ends with its first statement, so that its 'else' takes its place.
-        program("int f(){{{{{{if(1){}else{}}}}}}}");
-        program("int f(){{{{{{if(1);else(1);}}}}}}");
-        refused("int f(){{{{{{if(1);else(@(1));}}}}}}");
-        program("int f(){{{{{if(1);else if(1);}}}}}");
-        refused("int f(){{{{{{if(1);else if@(1);}}}}}}");
-        program("int f(){{{{{if(1)if(1);else{}else{{}}}}}}}");
-        refused("int f(){{{{{if(1)if(1);else{@{}}}}}}}");
+        Check.program("int f(){{{{{{if(1){}else{}}}}}}}");
+        Check.program("int f(){{{{{{if(1);else(1);}}}}}}");
+        Check.refused("int f(){{{{{{if(1);else(@(1));}}}}}}");
+        Check.program("int f(){{{{{if(1);else if(1);}}}}}");
+        Check.refused("int f(){{{{{{if(1);else if@(1);}}}}}}");
+        Check.program("int f(){{{{{if(1)if(1);else{}else{{}}}}}}}");
+        Check.refused("int f(){{{{{if(1)if(1);else{@{}}}}}}}");
         // Each 'else' stays open in the chain, though every 'if' has ended.
-        program("int f(){if(1);else if(1);else if(1);else if(1);else if(1);else if(1);}");
-        refused("int f(){if(1);else if(1);else if(1);else if(1);else if(1);else if(1);else if@(1);}");
+        Check.program("int f(){if(1);else if(1);else if(1);else if(1);else if(1);else if(1);}");
+        Check.refused("int f(){if(1);else if(1);else if(1);else if(1);else if(1);else if(1);else if@(1);}");
         // What has ended does not count.
-        program("int f(){{{{{{while(1);while(1);if(1);if(1);else;}}}}}}");
+        Check.program("int f(){{{{{{while(1);while(1);if(1);if(1);else;}}}}}}");
     }
 
     private static void longChains() {
-        program("int x=" + "!".repeat(152) + "1;");
-        program("int x=" + "-*&!".repeat(38) + "x;");
-        refused("int x=" + "!".repeat(153) + "@;");
-        program("int x=" + "x=".repeat(75) + "1;");
-        program("int x=" + "1+".repeat(76) + "1;");
-        program("int x=1" + "()".repeat(76) + ";");
-        program("typedef int t;int x=" + "(t)".repeat(46) + "1;");
-        program("int x=" + "sizeof ".repeat(21) + "1;");
-        program("int" + "*".repeat(155) + "x;");
-        program("int x" + "[]".repeat(77) + ";");
-        program("int f(){" + ";".repeat(151) + "}");
-        program("int;".repeat(40));
-        refused("int;".repeat(39) + "int@");
+        Check.program("int x=" + "!".repeat(152) + "1;");
+        Check.program("int x=" + "-*&!".repeat(38) + "x;");
+        Check.refused("int x=" + "!".repeat(153) + "@;");
+        Check.program("int x=" + "x=".repeat(75) + "1;");
+        Check.program("int x=" + "1+".repeat(76) + "1;");
+        Check.program("int x=1" + "()".repeat(76) + ";");
+        Check.program("typedef int t;int x=" + "(t)".repeat(46) + "1;");
+        Check.program("int x=" + "sizeof ".repeat(21) + "1;");
+        Check.program("int" + "*".repeat(155) + "x;");
+        Check.program("int x" + "[]".repeat(77) + ";");
+        Check.program("int f(){" + ";".repeat(151) + "}");
+        Check.program("int;".repeat(40));
+        Check.refused("int;".repeat(39) + "int@");
     }
 
     private static void readsAnew() {
@@ -496,8 +463,8 @@ public final class ReadTest {
         x.cut(9);
         Check.throwsDue("read() of the cut text", IllegalArgumentException.class, x::read);
         Check.due("at()", x.at(), 4);
-        Check.throwsDue("form(0)", IndexOutOfBoundsException.class, () -> x.form(0));
-        Check.throwsDue("about(0, 0)", IndexOutOfBoundsException.class, () -> x.about(0, 0));
+        Check.outOfBounds("form(0)", () -> x.form(0));
+        Check.outOfBounds("about(0, 0)", () -> x.about(0, 0));
         Check.due("role(1) behind a text that is none", x.role(1), -1);
         Check.due("meaning(1) behind a text that is none", x.meaning(1), -1);
         x.cut(0);

@@ -25,9 +25,9 @@ public final class TextTest {
         Check.due("length() of " + of, x.length(), 0);
         Check.due("role(0) of " + of, x.role(0), -1);
         Check.due("meaning(0) of " + of, x.meaning(0), -1);
-        Check.throwsDue("about(0, 0) of " + of, IndexOutOfBoundsException.class, () -> x.about(0, 0));
-        Check.throwsDue("typeAt(0, 0) of " + of, IndexOutOfBoundsException.class, () -> x.typeAt(0, 0));
-        Check.throwsDue("form(0) of " + of, IndexOutOfBoundsException.class, () -> x.form(0));
+        Check.outOfBounds("about(0, 0) of " + of, () -> x.about(0, 0));
+        Check.outOfBounds("typeAt(0, 0) of " + of, () -> x.typeAt(0, 0));
+        Check.outOfBounds("form(0) of " + of, () -> x.form(0));
     }
 
     private static void type() {
@@ -48,7 +48,8 @@ public final class TextTest {
         for (int c = 0; c < 256; c++) {
             boolean fits = c == 10 || c >= 32 && c <= 126;
             Check.due("type of character " + c, new TypeOrThing().type(c, 1), fits);
-            Check.due("type of character " + c + " last", new TypeOrThing().type((long) c << 56 | 0x20202020202020L, 8), fits);
+            long last = (long) c << 56 | 0x20202020202020L;
+            Check.due("type of character " + c + " last", new TypeOrThing().type(last, 8), fits);
         }
         Check.due("type of a bad byte in the middle", x.type('a' | 9 << 8 | 'b' << 16, 3), false);
         Check.due("type of a bad highest byte", x.type(-1L, 8), false);
