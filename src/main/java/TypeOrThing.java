@@ -205,11 +205,8 @@ public final class TypeOrThing {
             }
         }
 
-        /** Puts a count of names or arguments; three digits are plenty for 160 characters. */
+        /** Puts a count of names or arguments; 160 characters hold fewer than 100 of them. */
         void putCount(int count) {
-            if (count >= 100) {
-                put((char) ('0' + count / 100 % 10));
-            }
             if (count >= 10) {
                 put((char) ('0' + count / 10 % 10));
             }

@@ -81,6 +81,10 @@ public final class GrammarEdgeTest {
         int tokens = Check.countTokens(program);
         Check.due("meanings of its names", Check.meanings(x, tokens).replace("-", ""), "01002234425060");
         Check.due("roles of its names", Check.roles(x, tokens).replace("0", ""), "44223144214242");
+        // The innermost one, though an outer one has it since.
+        TypeOrThing later = Check.read("int f(int f){f;}");
+        Check.due("what f means in its block", later.meaning(7), 0);
+        Check.due("what f makes", later.meaning(1), 1);
     }
 
     /** "nothing if there is none" */

@@ -23,6 +23,7 @@ public final class PromisesEdgeTest {
         readThrowsAtTheEnd();
         readThrowsAtTheNinthThatIsOpen();
         readForgetsInAnyCase();
+        readForgetsWhatWasBegun();
         atIsOfTheLatestRead();
         rolesOfNames();
         roleOfNoToken();
@@ -284,6 +285,21 @@ public final class PromisesEdgeTest {
         Check.due("meanings of the next", Check.meanings(x, 3), "-0-");
         Check.due("role(3) of the next", x.role(3), TypeOrThing.NONE);
         Check.due("meaning(4) of the next", x.meaning(4), TypeOrThing.NONE);
+    }
+
+    /** What was open, or stood before an operand that is missing, at the token AT is forgotten, too. */
+    private static void readForgetsWhatWasBegun() {
+        TypeOrThing x = new TypeOrThing();
+        for (int round = 0; round < 3; round++) {
+            x.cut(0);
+            Check.append(x, "int f(int a){(((((((" + "!".repeat(130));
+            Check.due("AT of what has begun", Check.readAt(x), 144);
+            x.cut(0);
+            Check.append(x, "int f(){{{{{{{{}}}}}}}}int a=((((((((!1))))))));");
+            Check.due("AT of what has as much open", Check.readAt(x), TypeOrThing.NONE);
+            Check.due("its form", Check.form(x), "f:()i{{{{{{{{}}}}}}}}a:i1 !=;");
+            Check.due("depths", Check.parts(x, 1), "1 1");
+        }
     }
 
     private static void nothingIsToldButAt(TypeOrThing x, String text) {

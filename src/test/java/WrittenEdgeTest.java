@@ -6,6 +6,7 @@ public final class WrittenEdgeTest {
         voidAloneIsNothing();
         numbersOfDeclarations();
         formOfWhatMayBeMissing();
+        formOfSigns();
         formOfCalls();
         formAndTypesOfFullTexts();
         Check.end();
@@ -60,6 +61,22 @@ public final class WrittenEdgeTest {
         Check.formDue("int f(){if(1);else;}", "f:()i{1 ?;:;}");
         Check.formDue("int f(){while(1);}", "f:()i{1 %;}");
         Check.formDue("int f(){;{}{;}}", "f:()i{;{}{;}}");
+    }
+
+    /** "first what it is made of, in order, then: ..": each sign alone, and the two that are written otherwise */
+    private static void formOfSigns() {
+        for (String sign : new String[] {"+", "-", "*", "/", "<", "="}) {
+            Check.formDue("int a=a" + sign + "1;", "a:ia 1 " + sign + "=;");
+        }
+        Check.formDue("int a=-a;", "a:ia ~=;");
+        Check.formDue("int a=*a;", "a:ia @=;");
+        Check.formDue("int a=&a;", "a:ia &=;");
+        Check.formDue("int a=!a;", "a:ia !=;");
+        Check.formDue("int a=sizeof a;", "a:ia $=;");
+        Check.formDue("int a=sizeof(int);", "a:i[i]$=;");
+        Check.formDue("int a=(int)a;", "a:ia [i]=;");
+        Check.formDue("int a=a[1];", "a:ia 1 ]=;");
+        Check.formDue("int a=(1);", "a:i1 =;");
     }
 
     /** "for a call '(', the number of arguments, ')'" */
